@@ -145,7 +145,7 @@ public final class PassagePicker {
             case 1:
                 return page.sentenceEnd[sentence] - page.sentenceBegin[sentence];
             case 2:
-                return page.signsOfSentence(sentence);
+                return page.sentenceSigns[sentence];
             case 3:
                 return page.sentenceFirst[sentence];
             case 4:
@@ -387,7 +387,7 @@ public final class PassagePicker {
             case 13:
                 return sets.variety();
             case 14:
-                return sets.merit();
+                return sets.hundredths(sets.greedySet(), sets.bestSet());
             default:
                 return NONE;
         }
@@ -468,6 +468,7 @@ public final class PassagePicker {
     /** The page with its signs, words and sentences. */
     private static final class Page {
         final int[] bytes = new int[MAX_BYTES];
+        private final boolean[] letterAt = new boolean[MAX_BYTES];
         final int[] signAt = new int[MAX_BYTES + 1];
         final int[] wordBegin = new int[MAX_WORDS];
         final int[] wordEnd = new int[MAX_WORDS];
@@ -475,6 +476,7 @@ public final class PassagePicker {
         final int[] wordAlike = new int[MAX_WORDS];
         final int[] sentenceBegin = new int[MAX_SENTENCES];
         final int[] sentenceEnd = new int[MAX_SENTENCES];
+        final int[] sentenceSigns = new int[MAX_SENTENCES];
         final int[] sentenceFirst = new int[MAX_SENTENCES];
         final int[] sentenceWords = new int[MAX_SENTENCES];
         // The unlike words of each sentence as bits: those below 64, those from there on.
@@ -507,7 +509,7 @@ public final class PassagePicker {
         }
 
         boolean isLetter(int i) {
-            return isSmallLetter(small(at(i))) || isSecondOfPair(i) || isSecondOfPair(i + 1);
+            return i >= 0 && i < length && letterAt[i];
         }
 
         void findSigns() {
@@ -517,6 +519,7 @@ public final class PassagePicker {
                     signs++;
                 }
                 signAt[i] = signs - 1;
+                letterAt[i] = isSmallLetter(small(at(i))) || isSecondOfPair(i) || isSecondOfPair(i + 1);
             }
             signAt[length] = signs;
         }
@@ -528,10 +531,6 @@ public final class PassagePicker {
                 }
             }
             return NONE;
-        }
-
-        int signsBetween(int begin, int end) {
-            return signAt[end] - signAt[begin];
         }
 
         void findWords() {
@@ -558,6 +557,7 @@ public final class PassagePicker {
                 behind = endOfSentence(begin);
                 sentenceBegin[s] = begin;
                 sentenceEnd[s] = behind;
+                sentenceSigns[s] = signAt[behind] - signAt[begin];
                 sentences++;
             }
         }
@@ -610,8 +610,8 @@ public final class PassagePicker {
 
         // Whether the byte ends a letter that has no letter right ahead of it.
         boolean isLoneLetter(int last) {
-            int ahead = isSecondOfPair(last) ? last - 2 : last - 1;
-            return isLetter(last) && !isLetter(ahead);
+            boolean pair = last > 0 && signAt[last - 1] == signAt[last];
+            return isLetter(last) && !isLetter(pair ? last - 2 : last - 1);
         }
 
         boolean isEmptyLineAhead(int i) {
@@ -691,16 +691,12 @@ public final class PassagePicker {
         }
 
         int windowLength(int first, int last) {
-            return signsBetween(wordBegin[first], wordEnd[last]);
-        }
-
-        int signsOfSentence(int s) {
-            return signsBetween(sentenceBegin[s], sentenceEnd[s]);
+            return signAt[wordEnd[last]] - signAt[wordBegin[first]];
         }
 
         // As one of a set of sentences.
         int lengthOf(int s) {
-            return signsOfSentence(s) + JOINT_SIGNS;
+            return sentenceSigns[s] + JOINT_SIGNS;
         }
 
         int lastWordOf(int s) {
@@ -1180,7 +1176,7 @@ public final class PassagePicker {
         void seekCut(int sentence, int n) {
             int begin = page.sentenceFirst[sentence];
             int end = page.lastWordOf(sentence);
-            if (page.signsOfSentence(sentence) <= n) {
+            if (page.sentenceSigns[sentence] <= n) {
                 forget();
                 first = begin;
                 last = end;
@@ -1284,10 +1280,12 @@ public final class PassagePicker {
         int nextStep(int set) {
             int next = NONE;
             int nextGain = 0;
+            int now = worthOfSet(set);
             for (int s = 0; s < page.sentences; s++) {
-                int gain = gain(set, s);
-                if (gain > 0 && mayJoin(set, s)
-                        && (next == NONE || isBetterStep(gain, page.lengthOf(s), nextGain, page.lengthOf(next)))) {
+                int gain = worthOfSet(set | 1 << s) - now;
+                boolean better = next == NONE
+                        || isBetterStep(gain, page.lengthOf(s), nextGain, page.lengthOf(next));
+                if (gain > 0 && better && mayBe(set | 1 << s)) {
                     next = s;
                     nextGain = gain;
                 }
@@ -1349,9 +1347,9 @@ public final class PassagePicker {
             return search.largestSet();
         }
 
-        int merit() {
-            int whole = worthOfSet(bestSet());
-            return whole == 0 ? 100 : worthOfSet(greedySet()) * 100 / whole;
+        int hundredths(int set, int other) {
+            int whole = worthOfSet(other);
+            return whole == 0 ? 100 : worthOfSet(set) * 100 / whole;
         }
 
         int exchanged(int out, int in) {
@@ -1566,7 +1564,11 @@ public final class PassagePicker {
             int ahead = NONE;
             boolean openAhead = false;
             for (int s = 0; s < page.sentences; s++) {
-                if (!has(set, s) || !isWritable(s, n)) {
+                if (!has(set, s)) {
+                    continue;
+                }
+                windows.seekCut(s, n);
+                if (!windows.whole && windows.first == NONE) {
                     continue;
                 }
                 boolean openLeft = windows.first > page.sentenceFirst[s];
@@ -1581,12 +1583,6 @@ public final class PassagePicker {
             if (openAhead) {
                 put(LEFT_OUT);
             }
-        }
-
-        // Leaves the cut of the sentence in windows.
-        boolean isWritable(int s, int n) {
-            windows.seekCut(s, n);
-            return windows.whole || windows.first != NONE;
         }
 
         void putJoint(int ahead, boolean openAhead, int s, boolean openLeft) {

@@ -105,6 +105,10 @@ public final class ChosenTest {
         picker.choose(2);
         picker.choose(4);
         exchange(picker, 2, 3, 3);
+        picker.tell(1, 2);
+        picker.choose(0);
+        picker.choose(5);
+        exchange(picker, 0, 3, 3);
     }
 
     private static void trade() {

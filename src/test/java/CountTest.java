@@ -35,6 +35,9 @@ public final class CountTest {
         picker.tell(0, 20);
         picker.tell(1, 1);
         Check.equal("BUDGET and MOST aside", picker.count(13), 15);
+        PassagePicker late = Check.picker("aa bb. aa cc. bb dd. cc dd.", "");
+        late.tell(2, 0);
+        Check.equal("the least bits, found later", late.count(13), 6);
         Check.equal("one of like ones", Check.picker("aa. aa! aa?", "").count(13), 1);
         Check.equal("fourteen", Check.picker("1. 2. 3. 4. 5. 6. 7. 8. 9. 1. 2. 3. 4. 5. 6.", "").count(13), 16383);
     }

@@ -4,6 +4,7 @@ import java.util.NoSuchElementException;
 public final class PageTest {
     public static void main(String[] args) {
         signs();
+        pairs();
         words();
         hundredWords();
         borders();
@@ -37,6 +38,23 @@ public final class PageTest {
         Check.equal("the first word ends ahead of a lone byte", picker.word(0, 1), 3);
         Check.equal("its signs", picker.word(0, 2), 2);
         Check.equal("a pair behind a lone byte", picker.word(1, 0), 4);
+    }
+
+    private static void pairs() {
+        int[][] due = {{192, 128, 1}, {192, 191, 1}, {255, 128, 1}, {255, 191, 1}, {191, 128, 2}, {191, 191, 2},
+            {192, 127, 2}, {192, 192, 2}, {255, 192, 2}, {128, 192, 2}};
+        for (int[] row : due) {
+            PassagePicker picker = new PassagePicker();
+            Check.page(picker, "" + (char) row[0] + (char) row[1]);
+            Check.equal("signs of " + row[0] + " " + row[1], picker.count(1), row[2]);
+            Check.equal("words of " + row[0] + " " + row[1], picker.count(2), row[2] == 1 ? 1 : 0);
+        }
+        PassagePicker letters = new PassagePicker();
+        Check.page(letters, "azAZ Azaz @ [ ` { 0");
+        Check.equal("letters from a to z", letters.count(2), 2);
+        Check.equal("A to Z like a to z", letters.word(1, 5), 0);
+        Check.page(letters, "\u00c3\u0080 \u00c3\u00a0 \u00c3\u0080");
+        Check.equal("pairs are alike if they are one", letters.count(10), 2);
     }
 
     private static void words() {
@@ -185,5 +203,16 @@ public final class PageTest {
         Check.equal("none is chosen", picker.count(9), 0);
         Check.equal("what was written stays", picker.count(12), bytes);
         Check.equal("the best is sought anew", picker.choice(true), 3);
+        Check.page(picker, "... Aa bb cc.");
+        Check.equal("signs", picker.count(1), 13);
+        Check.equal("the first has no word", picker.sentence(0, 3), -1);
+        Check.equal("nor any", picker.sentence(0, 4), 0);
+        Check.equal("nothing in common", picker.common(0, 1), 0);
+        Check.page(picker, "No! Aa.");
+        Check.equal("words of the second", picker.sentence(1, 4), 1);
+        Check.equal("unlike ones", picker.sentence(1, 5), 1);
+        Check.equal("its first word", picker.sentence(1, 3), 1);
+        Check.equal("no second word", picker.word(1, 3), 1);
+        Check.equal("no sign beyond", picker.sign(7), -1);
     }
 }

@@ -6,6 +6,7 @@ public final class QueryTest {
         right();
         faults();
         wrongChangesNothing();
+        newQuery();
         items();
         fits();
         matches();
@@ -57,6 +58,12 @@ public final class QueryTest {
         fault("; item 1 a;", 0);
         fault("item 0 a;", 5);
         fault("item 12 a;", 5);
+        fault("item 10 a;", 5);
+        fault("item 19 a;", 5);
+        fault("item : a;", 5);
+        fault("item / a;", 5);
+        fault("xtem 1 a;", 0);
+        fault("iten 1 a;", 0);
         fault("item 01 a;", 5);
         fault("item -1 a;", 5);
         fault("item soft a;", 5);
@@ -106,6 +113,20 @@ public final class QueryTest {
         Check.equal("page() leaves the fault", picker.fault(), -1);
     }
 
+    private static void newQuery() {
+        PassagePicker picker = Check.picker("aa bbb cc", "item 1 soft aa bbb; item 1 soft bb*;");
+        Check.equal("soft", picker.item(0, 1), 0);
+        Check.equal("items", Check.query(picker, "item 2 aa; item 3 bb; item 4 cccc; item 5 safe soft;"), 4);
+        Check.equal("strong", picker.item(0, 1), 1);
+        Check.equal("strong too", picker.item(1, 1), 1);
+        Check.equal("a word like soft is a term", picker.item(3, 1), 1);
+        Check.equal("soft behind it is one", picker.item(3, 2), 2);
+        Check.no("no second term any more", picker.fits(0, 1, 1));
+        Check.no("no star any more", picker.fits(1, 0, 1));
+        Check.equal("no match of what was sought", picker.word(1, 4), 0);
+        Check.equal("matches", picker.count(5), 1);
+    }
+
     private static void items() {
         PassagePicker picker = Samples.picker();
         int[][] due = {{5, 1, 1, 2, 3}, {3, 0, 2, 1, 1}, {2, 1, 1, 2, 6}, {1, 0, 1, 1, 8}};
@@ -133,6 +154,10 @@ public final class QueryTest {
             Check.no("fits(2, 0, " + word + ")", picker.fits(2, 0, word));
             Check.yes("fits(2, 1, " + word + ")", picker.fits(2, 1, word));
         }
+        PassagePicker twelve = Check.picker("Abcdefghijkl abcdefghijklm", "item 1 abcdefghijkl;");
+        Check.yes("a term of twelve letters", twelve.fits(0, 0, 0));
+        Check.no("a word of thirteen", twelve.fits(0, 0, 1));
+        Check.equal("its match", twelve.count(5), 1);
         Check.no("no such term", picker.fits(0, 1, 0));
         Check.no("term -1", picker.fits(0, -1, 0));
         Check.no("no second term, the next item's", picker.fits(1, 4, 0));

@@ -91,6 +91,30 @@ public final class SetTest {
         Check.throwing("common, none", IndexOutOfBoundsException.class, () -> picker.common(-1, -1));
         Check.equal("words from 64 on", Check.picker(manyWords(), "").common(12, 13), 100);
         Check.equal("none of them", Check.picker(manyWords(), "").common(11, 12), 0);
+        // Words 63 to 65 stand at the border of two rows of bits.
+        StringBuilder page = new StringBuilder();
+        for (int w = 0; w < 70; w++) {
+            page.append((char) ('a' + w / 10)).append((char) ('a' + w % 10)).append(w % 10 == 9 ? "! " : " ");
+        }
+        PassagePicker border = Check.picker(page + "aa gd. gc ge. gd ge gf. gf gg ab.", "");
+        Check.equal("1 of 11", border.common(6, 7), 9);
+        Check.equal("2 of 10", border.common(6, 8), 20);
+        Check.equal("3 of 10", border.common(6, 9), 30);
+        Check.equal("1 of 4", border.common(7, 9), 25);
+        Check.equal("1 of 11 again", border.common(0, 7), 9);
+        Check.equal("unlike words of all", border.count(10), 70);
+        Check.equal("echo", border.sentence(8, 10), 9);
+        Check.page(border, "zz. yy. xx. ww. vv. uu. tt. ss. rr.");
+        Check.equal("nothing in common any more", border.common(6, 8), 0);
+        Check.equal("one word", border.sentence(6, 5), 1);
+        // One word of ninety-nine: one hundredth is an echo too.
+        StringBuilder one = new StringBuilder("ab! ");
+        for (int w = 0; w < 99; w++) {
+            one.append((char) ('a' + w / 10)).append((char) ('a' + w % 10)).append(' ');
+        }
+        PassagePicker little = Check.picker(one.toString(), "");
+        Check.equal("1 of 99", little.common(0, 1), 1);
+        Check.equal("an echo", little.sentence(0, 10), 1);
     }
 
     // Thirteen sentences of seven unlike words each, the last one twice.
@@ -127,6 +151,10 @@ public final class SetTest {
         steps(picker, 0, 2);
         steps(Check.picker("aa. bb.", ""));
         steps(Check.picker("aa. aa. aa. aa! aa? aa.", "item 1 aa;"), 0);
+        PassagePicker less = Check.picker("aa. aa. aa. aa! aa? aa.", "item 1 aa;");
+        less.tell(2, 100);
+        less.tell(1, 6);
+        steps(less, 0, 1, 2);
     }
 
     private static void stepsOfLikes() {
@@ -164,6 +192,9 @@ public final class SetTest {
                 "item 2 aa; item 9 bb;");
         first.tell(0, 38);
         Check.equal("the first of like ones", first.choice(false), 2);
+        PassagePicker ahead = Check.picker("bb 123456789 123456789 123456789. aa.", "item 2 aa; item 9 bb;");
+        ahead.tell(0, 38);
+        Check.equal("the one alone ahead", ahead.choice(false), 1);
     }
 
     private static void best() {
@@ -196,6 +227,23 @@ public final class SetTest {
         tie.tell(1, 2);
         tie.tell(2, 0);
         Check.equal("of like sets the least bits", tie.choice(true), 3);
+        PassagePicker late = Check.picker("aa. bb. cc. dd.", "item 1 aa; item 1 bb; item 1 cc; item 1 dd;");
+        late.tell(1, 2);
+        Check.equal("the least bits of six", late.choice(true), 3);
+        Check.query(late, "item 2 aa; item 3 bb; item 3 cc; item 4 dd;");
+        late.tell(1, 1);
+        Check.equal("the last one", late.choice(true), 8);
+        late.tell(1, 2);
+        Check.page(late, "aa bb. aa cc. bb dd. cc dd!");
+        Check.query(late, "item 1 aa; item 1 bb; item 1 cc; item 1 dd;");
+        late.tell(2, 0);
+        Check.equal("the least bits, found later", late.choice(true), 6);
+        Check.page(late, "aa bb. aa cc. bb 1 dd. cc dd!");
+        Check.equal("but not if they are longer", late.choice(true), 9);
+        Check.page(late, "aa bb 123456789 123456789. aa bb 123456789 123456789.");
+        Check.equal("one alone", late.choice(true), 1);
+        late.tell(0, 20);
+        Check.equal("none has room", late.choice(true), 0);
         Check.equal("nothing is sought", Check.picker("aa.", "").choice(true), 0);
         Check.query(picker, "item 9 run;");
         Check.equal("a new query", picker.choice(true), 4);

@@ -5,6 +5,7 @@ public final class WindowTest {
     public static void main(String[] args) {
         minimal();
         several();
+        hundred();
         least();
         wrongSets();
         most();
@@ -46,6 +47,19 @@ public final class WindowTest {
         minimal(picker, 4, new int[][] {{0, 1, 3}, {2, 3, 3}, {5, 6, 3}});
         minimal(picker, 12, new int[][] {{0, 2, 5}, {1, 3, 5}});
         minimal(picker, 15, new int[][] {{0, 2, 5}, {1, 3, 5}});
+    }
+
+    private static void hundred() {
+        PassagePicker picker = Check.picker("b " + "a ".repeat(97) + "b b", "item 1 a; item 1 b;");
+        Check.equal("the first at once", picker.window(3, 0, 1), 1);
+        Check.equal("the second at once", picker.window(3, 1, 0), 97);
+        minimal(picker, 2, new int[][] {{0, 0, 1}, {98, 98, 1}, {99, 99, 1}});
+        least(picker, 3, 0, 1, 3);
+        widest(picker, 600, 0, 99, 199, 28);
+        Check.equal("most", picker.most(600), 2);
+        Check.page(picker, "a b a");
+        minimal(picker, 3, new int[][] {{0, 1, 3}, {1, 2, 3}});
+        minimal(picker, 1, new int[][] {{0, 0, 1}, {2, 2, 1}});
     }
 
     private static void least(PassagePicker picker, int set, int first, int last, int length) {

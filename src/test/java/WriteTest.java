@@ -139,6 +139,7 @@ public final class WriteTest {
     private static void merged() {
         marks("aa bb.", "item 1 aa; item 1 bb;", "<s>aa bb</s>.", 1, 0);
         marks("aa \t\nbb.", "item 1 soft aa; item 1 soft bb;", "<t>aa \t\nbb</t>.", 0, 1);
+        marks("a b c.", "item 1 a; item 1 b; item 1 soft b; item 1 soft c;", "<s>a <t>b</t></s><t> c</t>.", 1, 2);
         marks("aa, bb.", "item 1 aa; item 1 bb;", "<s>aa</s>, <s>bb</s>.", 2, 0);
         marks("aa, bb cc.", "item 1 aa bb; item 1 bb cc;", "<s>aa, bb cc</s>.", 1, 0);
         marks("aa aa aa.", "item 1 aa aa;", "<s>aa aa aa</s>.", 1, 0);
