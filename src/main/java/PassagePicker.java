@@ -1,6 +1,7 @@
 import java.util.Arrays;
 import java.util.NoSuchElementException;
 
+/** Picks passages of a page for what is sought, as ../shared/DOC.md says. */
 public final class PassagePicker {
     public static final int NONE = -1;
 
@@ -40,7 +41,7 @@ public final class PassagePicker {
         page = new Page();
         query = new Query();
         draft = new Query();
-        reader = new QueryReader();
+        reader = new QueryReader(tape, draft);
         matches = new Matches(page, query);
         windows = new Windows(page, query, matches);
         sets = new Sets(page, query, matches);
@@ -77,7 +78,7 @@ public final class PassagePicker {
     }
 
     public int query() throws IllegalArgumentException {
-        fault = reader.readInto(draft, tape);
+        fault = reader.readAll();
         tape.length = 0;
         if (fault != NONE) {
             throw new IllegalArgumentException("the query's text is wrong");
@@ -823,14 +824,18 @@ public final class PassagePicker {
 
     /** Reads a query's text, and stops at its fault. */
     private static final class QueryReader {
-        private Query into;
-        private Tape text;
+        private final Tape text;
+        private final Query into;
         private int at;
         private int fault;
 
-        int readInto(Query query, Tape tape) {
-            into = query;
-            text = tape;
+        QueryReader(Tape text, Query into) {
+            this.text = text;
+            this.into = into;
+        }
+
+        // Answers where the fault is.
+        int readAll() {
             at = 0;
             fault = NONE;
             into.clear();
