@@ -1,4 +1,7 @@
 import java.nio.charset.StandardCharsets;
+import java.util.NoSuchElementException;
+import java.util.function.IntUnaryOperator;
+import java.util.function.Supplier;
 
 /** What all tests share: feeding texts, asking, and counting the answers that are not due. */
 final class Check {
@@ -8,24 +11,33 @@ final class Check {
 
     private static int asked = 0;
     private static int wrong = 0;
+    private static String sentence = "";
 
     private Check() {
+    }
+
+    /** Tells which words of the document the answers from here on hold to; SentencesTest looks them up there. */
+    static void sentence(String words) {
+        sentence = words;
     }
 
     static void equal(String what, long got, long due) {
         asked++;
         if (got != due) {
-            wrong++;
-            System.out.println(what + " answered " + got + ", due is " + due);
+            tellWrong(what + " answered " + got + ", due is " + due);
         }
     }
 
     static void equal(String what, String got, String due) {
         asked++;
         if (!got.equals(due)) {
-            wrong++;
-            System.out.println(what + " answered [" + got + "], due is [" + due + "]");
+            tellWrong(what + " answered [" + got + "], due is [" + due + "]");
         }
+    }
+
+    private static void tellWrong(String text) {
+        wrong++;
+        System.out.println(text + (sentence.isEmpty() ? "" : "\n    by: " + sentence));
     }
 
     static void yes(String what, boolean got) {
@@ -38,13 +50,61 @@ final class Check {
 
     /** Due is exactly this exception, not one of a class below it. */
     static void throwing(String what, Class<? extends RuntimeException> due, Call call) {
-        String got;
+        equal(what, answer(call), due.getName());
+    }
+
+    /** The answer, or the name of what is thrown, as a text. */
+    static String answer(Call call) {
         try {
-            got = "" + call.answer();
+            return "" + call.answer();
         } catch (RuntimeException thrown) {
-            got = thrown.getClass().getName();
+            return thrown.getClass().getName();
         }
-        equal(what, got, due.getName());
+    }
+
+    /** Only the numbers from low to high are taken; the next ones and the farthest ones are refused. */
+    static void numbers(String what, int low, int high, IntUnaryOperator call) {
+        for (int n : new int[] {low - 1, high + 1, Integer.MIN_VALUE, Integer.MAX_VALUE}) {
+            throwing(what + " of " + n, IllegalArgumentException.class, () -> call.applyAsInt(n));
+        }
+        taken(what, low, call);
+        taken(what, high, call);
+    }
+
+    /** Only the questions from 0 to last are answered. */
+    static void whats(String what, int last, IntUnaryOperator call) {
+        for (int n : new int[] {-1, last + 1, Integer.MIN_VALUE, Integer.MAX_VALUE}) {
+            throwing(what + ", what " + n, NoSuchElementException.class, () -> call.applyAsInt(n));
+        }
+        for (int n = 0; n <= last; n++) {
+            taken(what + ", what", n, call);
+        }
+    }
+
+    /** Only things from 0 on, as many as there are, are found. */
+    static void indices(String what, int size, IntUnaryOperator call) {
+        for (int n : new int[] {-1, size, size + 1, Integer.MIN_VALUE, Integer.MAX_VALUE}) {
+            throwing(what + " " + n, IndexOutOfBoundsException.class, () -> call.applyAsInt(n));
+        }
+        if (size > 0) {
+            taken(what, 0, call);
+            taken(what, size - 1, call);
+        }
+    }
+
+    /** NONE is answered for all but the numbers from 0 on, as many as there are. */
+    static void nones(String what, int size, IntUnaryOperator call) {
+        for (int n : new int[] {-1, -2, size, size + 1, Integer.MIN_VALUE, Integer.MAX_VALUE}) {
+            equal(what + "(" + n + ")", call.applyAsInt(n), PassagePicker.NONE);
+        }
+        if (size > 0) {
+            no(what + "(0) is none", call.applyAsInt(0) == PassagePicker.NONE);
+            no(what + "(" + (size - 1) + ") is none", call.applyAsInt(size - 1) == PassagePicker.NONE);
+        }
+    }
+
+    private static void taken(String what, int n, IntUnaryOperator call) {
+        equal(what + " of " + n, answer(() -> call.applyAsInt(n)).replaceAll("-?\\d+", "a number"), "a number");
     }
 
     static void finish() {
@@ -95,8 +155,21 @@ final class Check {
     /** What was written last. */
     static String written(PassagePicker picker) {
         StringBuilder text = new StringBuilder();
-        for (int k = 0; picker.octet(k) != PassagePicker.NONE; k++) {
-            text.append((char) picker.octet(k));
+        for (int octet = picker.octet(0); octet != PassagePicker.NONE; octet = picker.octet(text.length())) {
+            text.append((char) octet);
+        }
+        return text.toString();
+    }
+
+    /** What was written last, read from several objects made alike, so that none is used for more than 512 calls. */
+    static String longWritten(Supplier<PassagePicker> made) {
+        StringBuilder text = new StringBuilder();
+        int size = made.get().count(12);
+        while (text.length() < size) {
+            PassagePicker picker = made.get();
+            for (int times = 0; times < 400 && text.length() < size; times++) {
+                text.append((char) picker.octet(text.length()));
+            }
         }
         return text.toString();
     }

@@ -23,6 +23,22 @@ public final class FaceTest {
         "int drop(int)", "int exchange(int)", "int trade()", "int rank(int)", "int need(int)", "int loss(int)",
         "int quote(int)", "int write(int)", "int octet(int)", "int marks(boolean)", "int count(int)"};
 
+    private static final String[] THROWS = {
+        "query: IllegalArgumentException", "tell: NoSuchElementException,IllegalArgumentException",
+        "word: IndexOutOfBoundsException,NoSuchElementException",
+        "sentence: IndexOutOfBoundsException,NoSuchElementException",
+        "item: IndexOutOfBoundsException,NoSuchElementException", "fits: IndexOutOfBoundsException",
+        "match: IndexOutOfBoundsException,NoSuchElementException",
+        "window: NoSuchElementException,IllegalArgumentException",
+        "least: NoSuchElementException,IllegalArgumentException", "most: IllegalArgumentException",
+        "widest: NoSuchElementException,IllegalArgumentException",
+        "cut: IndexOutOfBoundsException,NoSuchElementException,IllegalArgumentException",
+        "set: NoSuchElementException,IllegalArgumentException", "common: IndexOutOfBoundsException",
+        "choose: IndexOutOfBoundsException,IllegalStateException",
+        "drop: IndexOutOfBoundsException,IllegalStateException", "exchange: NoSuchElementException",
+        "trade: IllegalStateException", "need: IllegalArgumentException", "loss: IndexOutOfBoundsException",
+        "quote: IllegalArgumentException", "write: IllegalArgumentException"};
+
     // What the class has no use for, and the rules leave out.
     private static final String[] OUTSIDE = {"\\btry\\b", "\\bcatch\\b", "\\bfinally\\b", "->", "::", "\\bsynchronized\\b",
         "\\bassert\\b", "\\bprotected\\b", "\\bstatic\\s*\\{", "\\bSystem\\.(?!arraycopy)", "\\bObject\\b",
@@ -44,6 +60,7 @@ public final class FaceTest {
         Check.equal("the class", Modifier.toString(face.getModifiers()), "public final");
         TreeSet<String> open = new TreeSet<>();
         TreeSet<String> closed = new TreeSet<>();
+        TreeSet<String> thrown = new TreeSet<>();
         for (Method method : face.getDeclaredMethods()) {
             String name = method.getReturnType().getSimpleName() + " " + method.getName()
                     + "(" + types(method.getParameterTypes()) + ")";
@@ -52,9 +69,13 @@ public final class FaceTest {
             } else {
                 Check.equal(name, Modifier.toString(method.getModifiers()), "public");
                 open.add(name);
+                String exceptions = types(method.getExceptionTypes());
+                thrown.add(exceptions.isEmpty() ? "" : method.getName() + ": " + exceptions);
             }
         }
         Check.equal("the methods", open.toString(), new TreeSet<>(List.of(FACE)).toString());
+        thrown.remove("");
+        Check.equal("what they throw", thrown.toString(), new TreeSet<>(List.of(THROWS)).toString());
         for (String name : FACE) {
             Check.no("a private " + name, closed.contains(name.replaceAll(".* (\\w+)\\(.*", "$1")));
         }

@@ -12,6 +12,15 @@ final class Samples {
     private Samples() {
     }
 
+    /** A sentence of words of two letters, all unlike, from one number to another one, and a blank. */
+    static String words(int from, int to) {
+        StringBuilder text = new StringBuilder();
+        for (int k = from; k < to; k++) {
+            text.append((char) ('a' + k / 10)).append((char) ('a' + k % 10)).append(k == to - 1 ? "! " : " ");
+        }
+        return text.toString();
+    }
+
     static PassagePicker picker() {
         return Check.picker(PAGE, QUERY);
     }

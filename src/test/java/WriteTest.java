@@ -173,14 +173,24 @@ public final class WriteTest {
     private static void longest() {
         // A hundred words of one letter with a quotation mark behind each, marked over one another.
         String page = "a\"b\"".repeat(50) + "\"".repeat(400);
-        PassagePicker picker = Check.picker(page, "item 1 a; item 1 b; item 1 soft a b; item 1 soft b a;");
-        picker.tell(0, 700);
-        picker.choose(0);
         StringBuilder due = new StringBuilder();
         for (int w = 0; w < 100; w++) {
             due.append(w == 0 ? "" : "<t>&quot;</t>").append("<s><t>").append(w % 2 == 0 ? "a" : "b").append("</t></s>");
         }
-        write(picker, 600, due + "&quot;".repeat(401), 100, 199);
+        due.append("&quot;".repeat(401));
+        PassagePicker once = longest(page);
+        Check.equal("bytes of the longest", once.count(12), due.length());
+        Check.equal("its strong marks", once.marks(true), 100);
+        Check.equal("its soft marks", once.marks(false), 199);
+        Check.equal("the longest", Check.longWritten(() -> longest(page)), due.toString());
+    }
+
+    private static PassagePicker longest(String page) {
+        PassagePicker picker = Check.picker(page, "item 1 a; item 1 b; item 1 soft a b; item 1 soft b a;");
+        picker.tell(0, 700);
+        picker.choose(0);
+        picker.write(600);
+        return picker;
     }
 
     private static void wrongNumbers() {
