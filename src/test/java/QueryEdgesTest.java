@@ -361,6 +361,10 @@ public final class QueryEdgesTest {
         fault("item 1 aB;", 8);
         fault("item 1 a1;", 8);
         fault("item 1 a; \u0000", 10);
+        fault("item item 1 a; x", 5);
+        fault("item 1 a b c d item 1 e; x", 15);
+        fault("item 1 2 item 0 a;", 7);
+        fault("x item 0 a; item 1", 0);
         fault("x".repeat(600), 0);
         fault(" ".repeat(599) + "x", 599);
         fault("item 1 a;".repeat(8) + "x", 72);

@@ -228,6 +228,8 @@ public final class WriteEdgesTest {
         write(chosen("aa bb cc!", "item 1 xx;", 0), 600, "aa bb cc!");
         write(chosen("aa bb cc dd!", "item 1 aa bb cc dd;", 0), 600, "<s>aa bb cc dd</s>!");
         write(chosen("aa! aa!", "item 1 aa;", 0), 600, "<s>aa</s>!");
+        write(chosen("a-b-c-d-e-f-g-h", "item 1 a;item 1 b;item 1 soft c;item 1 d;item 1 e;item 1 soft f;item 1 g;item 1 soft h;",
+                0), 600, "<s>a</s>-<s>b</s>-<t>c</t>-<s>d</s>-<s>e</s>-<t>f</t>-<s>g</s>-<t>h</t>");
         PassagePicker cut = chosen("aa bb cc dd ee!", "item 9 aa; item 1 aa bb cc dd; item 1 soft bb cc dd ee;", 0);
         write(cut, 10, "<s>aa</s>..");
         write(cut, 11, "<s>aa bb cc dd</s>..");
