@@ -1462,7 +1462,7 @@ public final class PassagePicker {
         }
 
         // Each round adds a sentence to the set, so that it goes no deeper than MOST.
-        void extend(int set, long tally, int length, int free, int from) {
+        private void extend(int set, long tally, int length, int free, int from) {
             if (Integer.bitCount(set) >= most) {
                 return;
             }
@@ -1494,7 +1494,7 @@ public final class PassagePicker {
         }
 
         // Depth is the sentence that is looked at, so that it ends behind the last one.
-        void enlarge(int set, int free, int depth) {
+        private void enlarge(int set, int free, int depth) {
             int reachable = Integer.bitCount(set) + Integer.bitCount(free);
             if (reachable < Integer.bitCount(largest)) {
                 return;

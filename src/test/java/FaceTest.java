@@ -132,6 +132,14 @@ public final class FaceTest {
         while (method.find()) {
             Check.yes("sixty lines at most: " + method.group().strip().split("\n")[0],
                     method.group().split("\n").length <= 60);
+            recursion(method.group().strip());
         }
+    }
+
+    private static void recursion(String method) {
+        Matcher head = Pattern.compile("^[^(]*?(\\w+)\\(").matcher(method);
+        boolean calls = head.find() && Pattern.compile("(?<![.\\w])" + head.group(1) + "\\(")
+                .matcher(method.substring(head.end())).find();
+        Check.yes("private, as it calls itself: " + head.group(), !calls || method.startsWith("private "));
     }
 }
